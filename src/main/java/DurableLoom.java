@@ -1217,15 +1217,6 @@ public final class DurableLoom {
       return at;
     }
 
-    /** The next TASK from an event on; the size if there is none. */
-    int nextTask(int from) {
-      int at = Math.max(0, from);
-      while (at < size && at < events.length && events[at] >> KIND_AT != TASK) {
-        at++;
-      }
-      return at;
-    }
-
     /** The first TASK that counts more arrivals than so many; the size if there is none. */
     int taskBeyond(int taken) {
       int at = 0;
@@ -1640,7 +1631,7 @@ public final class DurableLoom {
 
     /** Takes arrivals until so many of the history are taken. */
     void takeUpTo(int limit) {
-      while (state.taken < limit && goes()) {
+      for (int i = state.taken; i < limit && goes(); i++) {
         taking = history.nextArrival(state.arrivalAt);
         if (taking >= history.size) {
           return;
@@ -1656,14 +1647,18 @@ public final class DurableLoom {
 
     /** Goes by the TASKs whose arrivals are all taken. */
     private void passTasks() {
-      int task = history.nextTask(state.taskAt);
-      while (!stuck && task < history.size && history.x(task) <= state.taken) {
+      for (int i = state.taskAt; i < history.size && !stuck; i++) {
+        if (history.kind(i) != History.TASK) {
+          continue;
+        }
+        if (history.x(i) > state.taken) {
+          return;
+        }
+        state.taskAt = i + 1;
         int command = history.nextCommand(state.commandAt);
-        if (command < task) {
+        if (command < i) {
           getStuck(command);
         }
-        state.taskAt = task + 1;
-        task = history.nextTask(task + 1);
       }
     }
 
