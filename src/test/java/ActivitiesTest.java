@@ -159,6 +159,13 @@ public final class ActivitiesTest {
     Check.due("the taking counts as a beat", loom.activity(0), 21);
     loom.pass(1);
     Check.due("the last attempt", loom.activity(0), 22);
+    DurableLoom one = withActivities(2);
+    one.setKind(0, 1, 0, 0, 0, 1);
+    one.setKind(1, 1, 0, 1, 0, 0);
+    one.take(0);
+    one.pass(1);
+    Check.due("the limit 1 of beats", one.activity(0), 12);
+    Check.due("the limit 1 of waiting", one.activity(1), 102);
     DurableLoom none = withActivities(1);
     none.take(0);
     none.pass(100);

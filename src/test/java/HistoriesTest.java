@@ -187,6 +187,14 @@ public final class HistoriesTest {
     untaken.cancel(0);
     Check.work(untaken, 0);
     Check.due("FAILED with CANCEL that was not taken", Check.status(untaken, 0), DurableLoom.FAILED);
+    DurableLoom next = Check.with(Check.ZERO, 0, 2, Check.WAIT, 0, 0, Check.FAIL, 0, 0);
+    next.begin(0, 0, 7);
+    next.begin(0, 0, 0);
+    next.cancel(0);
+    Check.work(next, 0);
+    Check.work(next, 0);
+    Check.due("the run that was cancelled", Check.status(next, 0), DurableLoom.CANCELLED);
+    Check.due("the run behind it", Check.status(next, 1), DurableLoom.FAILED);
     DurableLoom done = Check.with(Check.TRY, 2, 0, Check.WAIT, 0, 0, Check.END, 0, 0);
     done.begin(0, 0, 7);
     done.cancel(0);
@@ -216,6 +224,18 @@ public final class HistoriesTest {
     bare.cancel(0);
     Check.due("BARE without a shield takes none", Check.work(bare, 0), 1);
     Check.due("no shield any more", Check.status(bare, 0), DurableLoom.CANCELLED);
+    DurableLoom once = Check.with(Check.TRY, 3, 0, Check.SHIELD, 0, 0, Check.BARE, 0, 0, Check.WAIT, 0, 1,
+        Check.SHIELD, 0, 0, Check.BARE, 0, 0, Check.WAIT, 0, 1);
+    DurableLoom shielded = Check.with(Check.TRY, 4, 0, Check.SHIELD, 0, 0, Check.WAIT, 0, 1, Check.BARE, 0, 0,
+        Check.SHIELD, 0, 0, Check.BARE, 0, 0, Check.WAIT, 0, 1);
+    once.begin(0, 0, 7);
+    once.signal(0, 0, 1);
+    Check.due("shields without CANCEL", Check.work(once, 0), 0);
+    shielded.begin(0, 0, 7);
+    shielded.cancel(0);
+    shielded.signal(0, 0, 1);
+    Check.due("cancelled once, with shields behind it", Check.work(shielded, 0), 0);
+    Check.due("it waits on", Check.status(shielded, 0), DurableLoom.OPEN);
     DurableLoom later = Check.with(Check.SHIELD, 0, 0, Check.WAIT, 0, 1, Check.PAR, 4, 0, Check.WAIT, 0, 2,
         Check.TIMER, 9, 0);
     later.begin(0, 0, 7);

@@ -11,6 +11,7 @@ public final class OtherHistoriesTest {
     copy();
     takeOver();
     takeOverWork();
+    takeOverTimers();
     takeOverFamily();
     takeOverMidway();
     join();
@@ -281,6 +282,51 @@ public final class OtherHistoriesTest {
     Check.due("the new one", loom.activity(2), 0);
     loom.pass(10);
     Check.due("a timer that fired does not fire again", Check.history(loom, 0, 4), "FIRED 2 0");
+  }
+
+  /** Two timers are made anew with the times at which they were due; CANCEL is an arrival that stays. */
+  private static void takeOverTimers() {
+    DurableLoom loom = Check.with(Check.PAR, 4, 0, Check.SHIELD, 0, 0, Check.TIMER, 3, 0, Check.WAIT, 0, 0,
+        Check.SHIELD, 0, 0, Check.TIMER, 9, 0, Check.WAIT, 0, 0);
+    loom.begin(0, 0, 7);
+    Check.work(loom, 0);
+    loom.cancel(0);
+    loom.signal(0, 3, 1);
+    loom.copy(0, 5);
+    loom.pass(1);
+    Check.due("takeOver", loom.takeOver(), 1);
+    loom.pass(2);
+    Check.due("the first timer", Check.history(loom, 0, 4), "CANCEL 0 0, FIRED 1 0");
+    loom.pass(5);
+    Check.due("the second timer is not due", loom.standing(0), 60);
+    loom.pass(1);
+    Check.due("the second timer", Check.history(loom, 0, 6), "FIRED 2 0");
+    Check.due("cancel", loom.cancel(0), false);
+    int task = loom.poll(0);
+    Check.due("complete", loom.complete(task / 100), 0);
+    Check.due("all arrivals count", Check.history(loom, 0, 7), "TASK 4 0");
+    Check.due("no work is left", loom.poll(0), -1);
+    // A timer that fired is due once more when FIRED is lost.
+    DurableLoom fired = Check.with(Check.PAR, 3, 0, Check.TIMER, 3, 0, Check.END, 0, 0, Check.TIMER, 9, 0);
+    fired.begin(0, 0, 7);
+    Check.work(fired, 0);
+    fired.copy(0, 4);
+    fired.pass(5);
+    Check.due("takeOver", fired.takeOver(), 1);
+    fired.pass(1);
+    Check.due("the next tick", Check.history(fired, 0, 4), "FIRED 1 0");
+    fired.pass(2);
+    Check.due("ahead of the other", fired.standing(0), 50);
+    fired.pass(1);
+    Check.due("the other", Check.history(fired, 0, 5), "FIRED 2 0");
+    // The run 0 is the one without copied events.
+    DurableLoom first = Check.with(Check.WAIT, 0, 0);
+    first.begin(0, 0, 7);
+    first.begin(0, 0, 7);
+    first.copy(1, 1);
+    Check.due("takeOver", first.takeOver(), 1);
+    Check.due("the first run", first.standing(0), 5);
+    Check.due("the second run", first.standing(1), 10);
   }
 
   private static void takeOverFamily() {

@@ -10,6 +10,9 @@ public final class ProgramsTest {
     races();
     parentsWait();
     droppedBranches();
+    belowThroughEnded();
+    othersAreLeft();
+    branchesBeginAnew();
     handlers();
     sagas();
     endings();
@@ -201,12 +204,94 @@ public final class ProgramsTest {
         "SIGNAL 0 1, DROP 1 0, DROP 2 0, DONE 7 0, TASK 2 0");
   }
 
+  /** 1 begins 2, which begins 3 and ends: 3 is below 1 all the same, 4 is not. */
+  private static void belowThroughEnded() {
+    DurableLoom loom = Check.with(Check.RACE, 5, 0, Check.PAR, 12, 0, Check.WAIT, 0, 1, Check.WIN, 0, 0, Check.WAIT, 0, 1,
+        Check.PAR, 8, 0, Check.WAIT, 1, 1, Check.END, 0, 0, Check.PAR, 10, 0, Check.END, 0, 0,
+        Check.TIMER, 30, 0, Check.END, 0, 0, Check.TIMER, 40, 0);
+    loom.begin(0, 0, 7);
+    Check.work(loom, 0);
+    Check.due("the timers", Check.history(loom, 0, 1), "TIMER 40 0, TIMER 30 0, TASK 1 0");
+    loom.signal(0, 0, 1);
+    Check.work(loom, 0);
+    Check.due("dropped through one that has ended", Check.history(loom, 0, 4), "SIGNAL 0 1, DROP 2 0, TASK 2 0");
+  }
+
+  /** DROP ends what one event has commanded, and nothing else. */
+  private static void othersAreLeft() {
+    int[] commands = {Check.ACT, Check.TIMER, Check.CHILD};
+    for (int command : commands) {
+      DurableLoom loom = Check.with(Check.PAR, 6, 0, Check.RACE, 4, 0, command, 1, 0, Check.END, 0, 0,
+          Check.WAIT, 0, 1, Check.WIN, 0, 0, command, 1, 0, Check.WAIT, 1, 1);
+      Check.code(loom, 1, Check.WAIT, 0, 0);
+      loom.begin(0, 0, 7);
+      loom.begin(0, 0, 7);
+      Check.work(loom, 0);
+      Check.work(loom, 0);
+      loom.signal(0, 0, 1);
+      Check.workAll(loom);
+      Check.due("what came of the commands", Check.history(loom, 0, 4).startsWith("SIGNAL 0 1, DROP 1 0, "), true);
+      if (command == Check.ACT) {
+        Check.due("the activity that was dropped", loom.activity(0), 2);
+        Check.due("the new one", loom.activity(4), 0);
+        Check.due("the other run's", loom.activity(2), 100);
+        Check.due("the other branch's", loom.activity(1), 0);
+      } else if (command == Check.TIMER) {
+        loom.pass(1);
+        Check.due("the timers", Check.history(loom, 0, 8), "FIRED 2 0, FIRED 6 0");
+        Check.due("the other run's", Check.history(loom, 1, 4), "FIRED 1 0, FIRED 2 0");
+      } else {
+        Check.due("the child that was dropped", Check.history(loom, 2).contains("CANCEL"), true);
+        Check.due("the other branch's", Check.history(loom, 3).contains("CANCEL"), false);
+        Check.due("the other run's", Check.history(loom, 4).contains("CANCEL"), false);
+      }
+    }
+  }
+
+  /** A branch that begins has nothing of one that was there before it. */
+  private static void branchesBeginAnew() {
+    // 1 takes a shield, a handler and a rival, and ends; 3 begins when 2 is there still.
+    DurableLoom loom = Check.with(Check.PAR, 7, 0, Check.PAR, 11, 0, Check.WAIT, 0, 1, Check.PAR, 13, 0, Check.PAR, 13, 0,
+        Check.TRY, 6, 0, Check.WAIT, 3, 1, Check.SHIELD, 0, 0, Check.TRY, 6, 0, Check.RACE, 10, 0,
+        Check.END, 0, 0, Check.TRY, 6, 0, Check.WAIT, 1, 1, Check.TIMER, 20, 0, Check.FAIL, 0, 0);
+    loom.begin(0, 0, 7);
+    loom.signal(0, 0, 5);
+    Check.work(loom, 0);
+    Check.due("the history", Check.history(loom, 0, 2), "TIMER 20 0, TIMER 20 0, TASK 2 0");
+    loom.cancel(0);
+    Check.work(loom, 0);
+    Check.due("no shield and no handler of others", Check.history(loom, 0, 5), "CANCEL 0 0, DROP 2 0, FAIL 0 0, TASK 3 0");
+    // 1 is told of CANCEL behind its shield, and ends; 2 begins behind that.
+    DurableLoom ended = Check.with(Check.TRY, 3, 0, Check.PAR, 6, 0, Check.WAIT, 0, 1, Check.WAIT, 0, 1, Check.PAR, 9, 0,
+        Check.WAIT, 0, 1, Check.SHIELD, 0, 0, Check.WAIT, 1, 1, Check.END, 0, 0, Check.SHIELD, 0, 0, Check.BARE, 0, 0,
+        Check.TIMER, 20, 0);
+    ended.begin(0, 0, 7);
+    Check.work(ended, 0);
+    ended.cancel(0);
+    ended.signal(0, 1, 1);
+    Check.due("the branch ends behind its shield", Check.work(ended, 0), 0);
+    ended.signal(0, 0, 1);
+    Check.work(ended, 0);
+    Check.due("the next one is not told", Check.history(ended, 0, 5), "SIGNAL 0 1, TIMER 20 0, TASK 4 0");
+    // 1 and what is below it are dropped; what begins then is not dropped by the next WIN.
+    DurableLoom twice = Check.with(Check.RACE, 7, 0, Check.WAIT, 0, 1, Check.WIN, 0, 0, Check.PAR, 7, 0, Check.RACE, 7, 0,
+        Check.WAIT, 0, 1, Check.GOTO, 8, 0, Check.TIMER, 50, 0, Check.WIN, 0, 0, Check.WAIT, 0, 1);
+    twice.begin(0, 0, 7);
+    Check.work(twice, 0);
+    twice.signal(0, 0, 1);
+    Check.work(twice, 0);
+    twice.signal(0, 0, 1);
+    Check.work(twice, 0);
+    Check.due("two WINs", Check.history(twice, 0, 3), "SIGNAL 0 1, DROP 1 0, TIMER 50 0, TIMER 50 0, TASK 2 0, "
+        + "SIGNAL 0 1, DROP 6 0, TASK 3 0");
+  }
+
   private static void handlers() {
     Check.due("FAIL", once(Check.FAIL, 0, 0), "FAIL 0 0, TASK 1 0");
     Check.due("the last handler first", once(Check.TRY, 4, 0, Check.TRY, 3, 0, Check.FAIL, 0, 0,
         Check.FAIL, 0, 0, Check.ADD, 0, 0), "DONE 14 0, TASK 1 0");
-    Check.due("OVER", once(Check.TRY, 4, 0, Check.TRY, 3, 0, Check.OVER, 0, 0, Check.FAIL, 0, 0,
-        Check.ADD, 0, 0), "DONE 14 0, TASK 1 0");
+    Check.due("OVER", once(Check.TRY, 5, 0, Check.TRY, 4, 0, Check.OVER, 0, 0, Check.FAIL, 0, 0,
+        Check.SET, 0, 3, Check.ADD, 0, 0), "DONE 14 0, TASK 1 0");
     Check.due("OVER of none", once(Check.OVER, 0, 0, Check.FAIL, 0, 0), "FAIL 0 0, TASK 1 0");
     Check.due("a branch has no handler of its parent", once(Check.TRY, 4, 0, Check.PAR, 3, 0, Check.TIMER, 5, 0,
         Check.FAIL, 0, 0, Check.SET, 0, 1), "TIMER 5 0, FAIL 0 0, TASK 1 0");
@@ -237,6 +322,13 @@ public final class ProgramsTest {
     loom.answer(1, 500);
     Check.work(loom, 0);
     Check.due("UNDO with nothing left", Check.history(loom, 0, 6), "ANSWER 4 500, DONE 20 0, TASK 3 0");
+    Check.due("UNDO with the value 0", once(Check.COMP, 1, 5, Check.UNDO, 0, 0), "ACTIVITY 1 0, TASK 1 0");
+    DurableLoom two = Check.with(Check.ZERO, 0, 3, Check.COMP, 1, 0, Check.WAIT, 0, 1, Check.UNDO, 0, 0);
+    two.begin(0, 0, 7);
+    two.begin(0, 0, 0);
+    Check.work(two, 0);
+    Check.work(two, 0);
+    Check.due("another run's stack", Check.history(two, 1, 1), "DONE 0 0, TASK 1 0");
     Check.due("UNDO of nothing", once(Check.UNDO, 0, 0, Check.ADD, 0, 0), "DONE 14 0, TASK 1 0");
     Check.due("a branch's UNDO takes the run's stack", once(Check.COMP, 3, 0, Check.PAR, 3, 0, Check.TIMER, 5, 0,
         Check.UNDO, 0, 0), "TIMER 5 0, ACTIVITY 3 7, TASK 1 0");
@@ -253,6 +345,7 @@ public final class ProgramsTest {
     Check.due("the new run", Check.history(loom, 1), "START 0 0, DONE 77 0, TASK 1 0");
     againTakesSignals();
     againOfChild();
+    againOfParent();
     againWithoutRoom();
   }
 
@@ -261,7 +354,7 @@ public final class ProgramsTest {
     loom.begin(0, 0, 7);
     Check.work(loom, 0);
     loom.signal(0, 2, 20);
-    loom.signal(0, 1, 10);
+    loom.signal(0, 0, 10);
     loom.signal(0, 2, 21);
     loom.pass(1);
     loom.signal(0, 0, 5);
@@ -272,7 +365,7 @@ public final class ProgramsTest {
     Check.due("a TASK counts all that it knows", Check.history(loom, 0, 7),
         "FIRED 2 0, SIGNAL 0 5, SIGNAL 3 6, AGAIN 7 0, TASK 6 0");
     Check.due("the signals of the new run", Check.history(loom, 1),
-        "START 7 0, SIGNAL 1 10, SIGNAL 2 20, SIGNAL 2 21, SIGNAL 0 5, SIGNAL 3 6");
+        "START 7 0, SIGNAL 0 10, SIGNAL 2 20, SIGNAL 2 21, SIGNAL 0 5, SIGNAL 3 6");
     Check.due("the activity of the old run", loom.activity(0), 2);
     Check.work(loom, 0);
     Check.due("the new run has the latest version", Check.history(loom, 1, 6), "DONE 7 0, TASK 6 0");
@@ -286,6 +379,24 @@ public final class ProgramsTest {
     Check.workAll(loom);
     Check.due("the child's child", Check.history(loom, 2), "START 0 0, DONE 44 0, TASK 1 0");
     Check.due("the parent hears once", Check.history(loom, 0, 1), "CHILD 1 7, TASK 1 0, RESULT 1 44, DONE 44 0, TASK 2 0");
+  }
+
+  private static void againOfParent() {
+    DurableLoom loom = Check.with(Check.PAR, 3, 0, Check.WAIT, 0, 0, Check.AGAIN, 0, 0, Check.CHILD, 1, 0);
+    Check.code(loom, 1, Check.WAIT, 0, 0);
+    loom.setPolicy(1, 2);
+    loom.begin(0, 0, 7);
+    loom.begin(1, 0, 7);
+    Check.work(loom, 0);
+    loom.signal(0, 0, 5);
+    Check.work(loom, 0);
+    Check.work(loom, 0);
+    loom.pass(1);
+    Check.workAll(loom);
+    Check.due("AGAIN", Check.status(loom, 0), DurableLoom.CONTINUED);
+    Check.due("its child is stopped", Check.status(loom, 2), DurableLoom.STOPPED);
+    Check.due("another run is not", Check.status(loom, 1), DurableLoom.OPEN);
+    Check.due("the new run has a child of its own", Check.history(loom, 3), "START 5 0, CHILD 1 5, TASK 1 0");
   }
 
   private static void againWithoutRoom() {

@@ -221,7 +221,22 @@ public final class SchedulesTest {
     Check.due("the last point", input(loom, 6), 12);
     loom.pass(1);
     Check.due("the last one of the schedule is cancelled", Check.history(loom, 5), "START 12 0, CANCEL 0 0");
-    Check.due("the tenant", loom.poll(0) % 100, 0);
+    DurableLoom late = waitingRuns();
+    late.pass(3);
+    late.begin(0, 0, 1);
+    late.schedule(0, 2, 50, 0);
+    for (int i = 0; i < 10; i++) {
+      late.pass(100);
+      late.togglePause(0);
+    }
+    late.backfill(0, 1);
+    Check.due("the input by 1000", input(late, late.runs() - 1), 0);
+    int before = late.runs();
+    late.pass(50);
+    late.backfill(0, 2);
+    Check.due("the input by 1000", input(late, before + 1), 50);
+    Check.due("poll", late.poll(0) % 100, 0);
+    Check.due("the tenant of what is begun by it", late.poll(0) % 100, 1);
   }
 
   private static void fullHouse() {

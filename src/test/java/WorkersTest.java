@@ -10,6 +10,7 @@ public final class WorkersTest {
     dying();
     caches();
     cachesAndMoves();
+    statesThatAreKept();
     patchesInCaches();
     effectsInOrder();
     closing();
@@ -244,8 +245,78 @@ public final class WorkersTest {
     loom.signal(1, 3, 1);
     Check.work(loom, 0);
     Check.due("events were cut", loom.replays(0), 5);
+    loom.signal(1, 3, 1);
+    Check.work(loom, 0);
+    Check.due("it goes on from what it kept behind that", loom.replays(0), 5);
     Check.dueIndex(loom, "replays(3)", () -> loom.replays(3));
     Check.dueIndex(loom, "replays(-1)", () -> loom.replays(-1));
+  }
+
+  /** A worker that has two runs in turn comes to the same as one that replays each time. */
+  private static void statesThatAreKept() {
+    // The branches: a child that is joined, one that is raced, one with a handler; 9 is GOTO the wait.
+    sameAsReplayed(Check.PAR, 4, 0, Check.WAIT, 0, 0, Check.JOIN, 0, 0, Check.TIMER, 9, 0, Check.WAIT, 1, 1,
+        Check.TAG, 1, 0, Check.WAIT, 0, 2, Check.END, 0, 0);
+    sameAsReplayed(Check.PAR, 9, 0, Check.RACE, 6, 0, Check.WAIT, 0, 0, Check.WIN, 0, 0, Check.TAG, 0, 0, Check.WAIT, 2, 0,
+        Check.PAR, 10, 0, Check.WAIT, 1, 0, Check.WIN, 0, 0, Check.WAIT, 3, 0, Check.TIMER, 8, 0);
+    sameAsReplayed(Check.PAR, 4, 0, Check.RACE, 10, 0, Check.WAIT, 1, 0, Check.WIN, 0, 0, Check.PAR, 7, 0, Check.WAIT, 0, 3,
+        Check.END, 0, 0, Check.PAR, 9, 0, Check.END, 0, 0, Check.TIMER, 8, 0, Check.PAR, 13, 0, Check.WAIT, 0, 1,
+        Check.END, 0, 0, Check.TIMER, 7, 0);
+    sameAsReplayed(Check.TRY, 7, 0, Check.SHIELD, 0, 0, Check.SHIELD, 0, 0, Check.WAIT, 0, 0, Check.BARE, 0, 0,
+        Check.WAIT, 1, 0, Check.BARE, 0, 0, Check.TAG, 0, 0, Check.WAIT, 0, 0, Check.FAIL, 0, 0);
+    sameAsReplayed(Check.COMP, 2, 0, Check.WAIT, 0, 0, Check.COMP, 1, 0, Check.TRY, 6, 0, Check.WAIT, 1, 0,
+        Check.SET, 5, 1, Check.UNDO, 0, 0, Check.FAIL, 0, 0);
+    sameAsReplayed(Check.PATCH, 3, 1, Check.WAIT, 0, 0, Check.PATCH, 3, 5, Check.TAG, 0, 0, Check.WAIT, 1, 0,
+        Check.PATCH, 4, 7, Check.WAIT, 0, 0, Check.FAIL, 0, 0);
+    sameAsReplayed(Check.WAIT, 1, 0, Check.WAIT, 1, 1, Check.WAIT, 0, 2, Check.AGAIN, 2, 0);
+    sameAsReplayed(Check.TRY, 2, 0, Check.WAIT, 0, 0, Check.WAIT, 1, 0, Check.WAIT, 0, 0, Check.FAIL, 0, 0);
+  }
+
+  private static void sameAsReplayed(int... lines) {
+    for (int order = 0; order < 8; order++) {
+      DurableLoom keeps = Check.with(lines);
+      DurableLoom replays = Check.with(lines);
+      for (int run = 0; run < 2; run++) {
+        keeps.begin(0, 0, 7 + run);
+        replays.begin(0, 0, 7 + run);
+      }
+      for (int i = 0; i < 7; i++) {
+        step(keeps, order, i, false);
+        step(replays, order, i, true);
+      }
+      for (int run = 0; run < 2; run++) {
+        Check.due("run " + run + " by kept states", Check.history(keeps, run), Check.history(replays, run));
+        Check.due("its status", Check.status(keeps, run), Check.status(replays, run));
+      }
+      Check.due("replays of the one", keeps.replays(0), keeps.runs());
+    }
+  }
+
+  /** Both runs hear something, and the worker has a task of each. */
+  private static void step(DurableLoom loom, int order, int i, boolean forgets) {
+    loom.pass(1);
+    loom.setRate(10);
+    for (int run = 0; run < 2 && i > 0; run++) {
+      if (Check.status(loom, run) == DurableLoom.OPEN) {
+        if (i == 2 + order % 4 && run == 1) {
+          loom.cancel(run);
+        } else {
+          loom.signal(run, (order >> i % 3 & 1) ^ (i + run) % 2, 10 * i);
+        }
+      }
+    }
+    for (int k = 0; k < 4; k++) {
+      if (forgets) {
+        loom.die(0);
+      }
+      Check.work(loom, 0);
+    }
+    for (int kind = 0; kind < 4; kind++) {
+      int taken = loom.take(kind);
+      if (taken >= 0) {
+        loom.answer(taken / 1000, i);
+      }
+    }
   }
 
   private static void cachesAndMoves() {
@@ -264,6 +335,12 @@ public final class WorkersTest {
     Check.work(loom, 0);
     Check.due("the same version again is not", loom.replays(0), 2);
     Check.due("the variables", Check.variables(loom, 0), "2 9 0 0 0 0");
+    DurableLoom dies = withRuns(0);
+    Check.work(dies, 0);
+    dies.die(0);
+    dies.signal(0, 3, 1);
+    Check.work(dies, 0);
+    Check.due("the only state is forgotten", dies.replays(0), 2);
     DurableLoom stuck = Check.with(Check.WAIT, 0, 0, Check.GOTO, 1, 0);
     stuck.begin(0, 0, 7);
     Check.work(stuck, 0);
@@ -324,11 +401,13 @@ public final class WorkersTest {
     deep.setPolicy(1, 2);
     deep.setPolicy(2, 2);
     deep.begin(0, 0, 7);
+    deep.begin(2, 0, 7);
     Check.workAll(deep);
     deep.signal(0, 0, 1);
     Check.workAll(deep);
-    Check.due("the child", deep.standing(1), 35);
-    Check.due("the grandchild", deep.standing(2), 25);
+    Check.due("the child", deep.standing(2), 35);
+    Check.due("the grandchild", deep.standing(3), 25);
+    Check.due("a run that is no child", deep.standing(1), 20);
     Check.due("the parent hears nothing", deep.standing(0), 61);
     // The child's parent is STUCK: it hears.
     DurableLoom stuck = Check.with(Check.PAR, 3, 0, Check.WAIT, 0, 0, Check.GOTO, 2, 0, Check.CHILD, 1, 0);
@@ -370,7 +449,8 @@ public final class WorkersTest {
     for (int i = 0; i < 3 && Check.size(loom, last) == 1; i++) {
       Check.work(loom, 0);
     }
-    Check.due("all of the next run", Check.history(loom, last).contains("TASK 1 0, FAILED"), true);
+    Check.due("all of the next run", Check.history(loom, last).contains("TASK 1 0, FAILED 1 0, FAILED 2 0"), true);
+    Check.dueIndex(loom, "still the 61st", () -> loom.activity(60));
   }
 
   private static void wrongNumbers() {
