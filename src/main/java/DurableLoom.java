@@ -1048,12 +1048,6 @@ public final class DurableLoom {
       return place >= 0 && place < size && place < values.length ? values[place] : 0;
     }
 
-    void put(int place, int value) {
-      if (place >= 0 && place < size && place < values.length) {
-        values[place] = value;
-      }
-    }
-
     void add(int value) {
       if (size >= values.length) {
         values = Arrays.copyOf(values, 2 * values.length);
