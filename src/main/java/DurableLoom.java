@@ -10,6 +10,8 @@ public final class DurableLoom {
   private static final int MOST_VERSIONS = 4, MOST_LINES = 24, MOST_SCHEDULES = 4;
   private static final int MOST_RUNS = 30, MOST_ACTIVITIES = 60, MOST_EVENTS = 100;
   private static final int TOP = 999, HELD_TICKS = 5, MOST_DEPTH = 40;
+  /** No 512 calls bring in more: tags behind these in the queue are counted, but not kept. */
+  private static final int MOST_TAGS = 512 * 100;
 
   private static final int LAST_COMMAND = 23;
   private static final int[] TOP_A =
@@ -23,17 +25,17 @@ public final class DurableLoom {
   private final ArrayList<Activity> allActivities = new ArrayList<Activity>();
   private final ArrayList<Task> allTasks = new ArrayList<Task>();
   private final ArrayList<Schedule> allSchedules = new ArrayList<Schedule>();
-  private final State[] kept = new State[WORKERS * MOST_RUNS];
   private final int[] replayed = new int[WORKERS];
   private final int[] given = new int[TENANTS];
   private final int[] givenNow = new int[TENANTS];
-  private final Row tagQueue = new Row(16);
+  private final Row tagQueue = new Row();
   private final Machine machine = new Machine();
+  private int tagsPut = 0;
   private int tagsKnown = 0;
   private int rate = 3;
   private int time = 0;
   private int offset = 0;
-  private int eventsSoFar = 0;
+  private int arrivalsSoFar = 0;
   private boolean joined = true;
 
   /** Creates an engine without code, at the time 0. */
@@ -69,11 +71,11 @@ public final class DurableLoom {
   /** Makes the draft of a type the latest version of its code; returns the version's number. */
   public int deploy(int type) throws IndexOutOfBoundsException, IllegalStateException {
     Type of = typeAt(type);
-    if (of.draft.size == 0 || of.count >= MOST_VERSIONS) {
+    if (of.draft.size == 0 || of.versions.size() >= MOST_VERSIONS) {
       throw new IllegalStateException("the draft is empty, or there are too many versions");
     }
     of.draftBecomesVersion();
-    return of.count - 1;
+    return of.versions.size() - 1;
   }
 
   /** Sets what holds for a kind of activities. */
@@ -112,7 +114,7 @@ public final class DurableLoom {
     Type of = typeAt(type);
     checkTenant(tenant);
     checkValue(input);
-    if (of.count == 0 || allRuns.size() >= MOST_RUNS) {
+    if (of.versions.isEmpty() || allRuns.size() >= MOST_RUNS) {
       throw new IllegalStateException("no version, or no room for a run");
     }
     return startRun(type, tenant, input, -1, 0).number;
@@ -140,10 +142,8 @@ public final class DurableLoom {
     if (to.status != OPEN || to.history.size >= MOST_EVENTS) {
       throw new IllegalStateException("the run takes no update");
     }
-    if (to.history.hasNewSignal(name) || !replayCounted(to, to.version, true)) {
-      return false;
-    }
-    if (!machine.state.waitsForSignal(name)) {
+    boolean isSafe = machine.follow(to, codeOf(to, to.version), to.history.counted, Machine.REPLAY);
+    if (!isSafe || to.history.hasNewSignal(name) || !machine.state.waitsForSignal(name)) {
       return false;
     }
     arrive(to, History.SIGNAL, name, value);
@@ -163,7 +163,7 @@ public final class DurableLoom {
   public int query(int run, int variable) throws IndexOutOfBoundsException, IllegalStateException {
     Run of = runAt(run);
     checkVariable(variable);
-    if (!replayCounted(of, of.version, true)) {
+    if (!machine.follow(of, codeOf(of, of.version), of.history.counted, Machine.REPLAY)) {
       throw new IllegalStateException("its version is not safe for it");
     }
     return machine.state.value(variable);
@@ -173,10 +173,10 @@ public final class DurableLoom {
   public int plain(int run, int variable) throws IndexOutOfBoundsException, IllegalStateException {
     Run of = runAt(run);
     checkVariable(variable);
-    if (!replayCounted(of, of.version, true)) {
+    if (!machine.follow(of, codeOf(of, of.version), of.history.counted, Machine.REPLAY)) {
       throw new IllegalStateException("its version is not safe for it");
     }
-    replayCounted(of, of.version, false);
+    machine.follow(of, codeOf(of, of.version), of.history.counted, Machine.PLAIN);
     return machine.state.value(variable);
   }
 
@@ -254,15 +254,21 @@ public final class DurableLoom {
     if (stale) {
       return -1;
     }
-    if (!workOn(done, run)) {
+    boolean goesOn = run.isKeptBy(done.worker);
+    if (!goesOn) {
+      countReplay(done.worker);
+    }
+    int way = goesOn ? Machine.GO_ON : Machine.REPLAY;
+    if (!machine.follow(run, codeOf(run, run.version), done.arrivals, way) || machine.isLeft()) {
       run.status = STUCK;
       run.difference = machine.difference;
       return -2;
     }
     int first = run.history.size;
-    int many = putNews(run, done.arrivals);
-    keepState(done.worker, run);
-    carryOut(run, first, many);
+    int many = putNews(run, done, goesOn);
+    for (int i = first; i < first + many && i < run.history.size; i++) {
+      carryOut(run, i);
+    }
     return many;
   }
 
@@ -277,10 +283,9 @@ public final class DurableLoom {
         many++;
       }
     }
-    for (int i = worker * MOST_RUNS; i < (worker + 1) * MOST_RUNS && i < kept.length; i++) {
-      if (kept[i] != null) {
-        kept[i].tasks = 0;
-      }
+    for (int i = 0; i < allRuns.size(); i++) {
+      Run run = allRuns.get(i);
+      run.keeper = run.keeper == worker ? -1 : run.keeper;
     }
     return many;
   }
@@ -377,7 +382,8 @@ public final class DurableLoom {
     int many = 0;
     for (int i = 0; i < allRuns.size(); i++) {
       Run run = allRuns.get(i);
-      if (run.type == type && run.status == OPEN && !replayCounted(run, version, true)) {
+      if (run.type == type && run.status == OPEN
+          && !machine.follow(run, codeOf(run, version), run.history.counted, Machine.REPLAY)) {
         many++;
       }
     }
@@ -393,7 +399,7 @@ public final class DurableLoom {
     }
     of.version = version;
     of.status = OPEN;
-    return replayCounted(of, version, true);
+    return machine.follow(of, codeOf(of, version), of.history.counted, Machine.REPLAY);
   }
 
   /** Sets a run back to one of its tasks; returns the number of the new run. */
@@ -407,8 +413,8 @@ public final class DurableLoom {
       throw new IllegalStateException("the run is closed, or there is no room for another");
     }
     Run made = addRun(old.type, old.tenant, old.version, old.parent, old.parentEvent);
-    made.history.copyFrom(old.history, end + 1);
     old.status = STOPPED;
+    made.history.becomeFirst(old.history, end + 1);
     endWork(old);
     partFromChildren(old.number, 0);
     restoreWork(made);
@@ -468,7 +474,7 @@ public final class DurableLoom {
         arrive(run, History.SIGNAL, signal / 1000, signal % 1000);
         many++;
       }
-      run.lost.clear();
+      run.lost.cut(0);
     }
     return many;
   }
@@ -483,7 +489,7 @@ public final class DurableLoom {
     if (period < 1 || period > 50 || overlap < Schedule.SKIP || overlap > Schedule.BOTH) {
       throw new IllegalArgumentException("period or overlap is out of range");
     }
-    if (of.count == 0 || allSchedules.size() >= MOST_SCHEDULES) {
+    if (of.versions.isEmpty() || allSchedules.size() >= MOST_SCHEDULES) {
       throw new IllegalStateException("no version, or no room for a schedule");
     }
     allSchedules.add(new Schedule(type, tenant, period, overlap, time + offset));
@@ -527,7 +533,7 @@ public final class DurableLoom {
     if (many < 1 || many > 100) {
       throw new IllegalArgumentException("many is out of range");
     }
-    for (int i = 0; i < many && tagsKnown < tagQueue.size; i++) {
+    for (int i = 0; i < many && tagsKnown < tagsPut; i++) {
       int entry = tagQueue.at(tagsKnown);
       int run = entry / 1000;
       if (run >= 0 && run < allRuns.size()) {
@@ -535,7 +541,7 @@ public final class DurableLoom {
       }
       tagsKnown++;
     }
-    return tagQueue.size - tagsKnown;
+    return tagsPut - tagsKnown;
   }
 
   /** Returns the runs whose tag it is as the search knows it: bit r for the run r. */
@@ -588,7 +594,7 @@ public final class DurableLoom {
   }
 
   private void checkVersion(Type of, int version) {
-    if (version < 0 || version >= of.count) {
+    if (version < 0 || version >= of.versions.size()) {
       throw new IndexOutOfBoundsException("no such version");
     }
   }
@@ -627,6 +633,10 @@ public final class DurableLoom {
     return types[Math.floorMod(run.type, types.length)];
   }
 
+  private Row codeOf(Run run, int version) {
+    return typeOf(run).code(version);
+  }
+
   // ---- how runs begin, hear, and are closed
 
   private Run addRun(int type, int tenant, int version, int parent, int parentEvent) {
@@ -636,15 +646,15 @@ public final class DurableLoom {
   }
 
   private Run startRun(int type, int tenant, int input, int parent, int parentEvent) {
-    int latest = types[Math.floorMod(type, types.length)].count - 1;
+    int latest = types[Math.floorMod(type, types.length)].versions.size() - 1;
     Run run = addRun(type, tenant, latest, parent, parentEvent);
     arrive(run, History.START, input, 0);
     return run;
   }
 
   private void arrive(Run run, int kind, int x, int y) {
-    run.history.put(kind, x, y, time, eventsSoFar);
-    eventsSoFar++;
+    run.history.put(kind, x, y, time, arrivalsSoFar);
+    arrivalsSoFar++;
   }
 
   private boolean cancelRun(Run run) {
@@ -697,8 +707,8 @@ public final class DurableLoom {
         activity.state = Activity.OVER;
       }
     }
-    run.timers.clear();
-    run.dues.clear();
+    run.timers.cut(0);
+    run.dues.cut(0);
   }
 
   /** The children that events from the one told on have begun have no parent any more. */
@@ -746,32 +756,7 @@ public final class DurableLoom {
 
   private boolean isStale(Task task) {
     Run run = task.run;
-    return task.over || run.status != OPEN || run.history.tasks != task.tasks
-        || run.version != task.version || run.cuts != task.cuts;
-  }
-
-  /** Takes what the TASKs of a run count; returns whether that goes without its being STUCK. */
-  private boolean replayCounted(Run run, int version, boolean looks) {
-    machine.load(run.history, typeOf(run).code(version), looks);
-    machine.state.clear();
-    machine.takeUpTo(run.history.counted);
-    return !machine.stuck;
-  }
-
-  /** Takes what the task knows; returns whether that goes without the run's being STUCK. */
-  private boolean workOn(Task task, Run run) {
-    machine.load(run.history, typeOf(run).code(run.version), true);
-    State state = keptState(task.worker, run);
-    if (state.tasks > 0 && state.tasks == run.history.tasks
-        && state.version == run.version && state.cuts == run.cuts) {
-      machine.state.become(state);
-    } else {
-      machine.state.clear();
-      countReplay(task.worker);
-    }
-    machine.takeUpTo(task.arrivals);
-    machine.lookForLeft();
-    return !machine.stuck;
+    return task.over || run.status != OPEN || run.mark() != task.mark;
   }
 
   private void countReplay(int worker) {
@@ -780,73 +765,67 @@ public final class DurableLoom {
     }
   }
 
-  private State keptState(int worker, Run run) {
-    int place = Math.floorMod(worker * MOST_RUNS + run.number, kept.length);
-    if (kept[place] == null) {
-      kept[place] = new State();
-    }
-    return kept[place];
-  }
-
   /** Puts the new commands and a TASK behind them; returns how many new commands there are. */
-  private int putNews(Run run, int arrivals) {
+  private int putNews(Run run, Task task, boolean goesOn) {
+    if (!goesOn) {
+      run.seenEvents = run.history.size;
+      run.seenCounted = run.history.counted;
+    }
     History news = machine.news;
     for (int i = 0; i < news.size; i++) {
-      arrive(run, news.kind(i), news.x(i), news.y(i));
+      run.history.put(news.kind(i), news.x(i), news.y(i), time, 0);
     }
-    arrive(run, History.TASK, arrivals, 0);
+    run.history.put(History.TASK, task.arrivals, 0, time, 0);
+    run.keeper = task.worker;
+    run.keptMark = run.mark();
+    machine.knows(run);
     return news.size;
-  }
-
-  private void keepState(int worker, Run run) {
-    State state = machine.state;
-    state.commandAt = run.history.size;
-    state.taskAt = run.history.size;
-    state.tasks = run.history.tasks;
-    state.version = run.version;
-    state.cuts = run.cuts;
-    keptState(worker, run).become(state);
   }
 
   // ---- what new commands do
 
-  private void carryOut(Run run, int first, int many) {
-    for (int i = first; i < first + many && i < run.history.size; i++) {
-      int x = run.history.x(i);
-      int y = run.history.y(i);
-      switch (run.history.kind(i)) {
-        case History.ACTIVITY:
-          makeActivity(run, i, x, y);
-          break;
-        case History.TIMER:
-          run.addTimer(i, time + x);
-          break;
-        case History.CHILD:
-          beginChild(run, i, x, y);
-          break;
-        case History.DROP:
-          dropEvent(run, x);
-          break;
-        case History.TAG:
-          tagQueue.add(run.number * 1000 + x);
-          break;
-        default:
-          carryOutLast(run, run.history.kind(i), x);
-          break;
-      }
+  private void carryOut(Run run, int event) {
+    int x = run.history.x(event);
+    int y = run.history.y(event);
+    switch (run.history.kind(event)) {
+      case History.ACTIVITY:
+        makeActivity(run, event, x, y);
+        break;
+      case History.TIMER:
+        run.addTimer(event, time + x);
+        break;
+      case History.CHILD:
+        beginChild(run, event, x, y);
+        break;
+      case History.DROP:
+        dropEvent(run, x);
+        break;
+      case History.TAG:
+        queueTag(run, x);
+        break;
+      case History.DONE:
+        closeRun(run, DONE, x, 0);
+        break;
+      case History.FAIL:
+        closeRun(run, machine.state.cancelTaken ? CANCELLED : FAILED, 0, 0);
+        break;
+      case History.AGAIN:
+        if (allRuns.size() < MOST_RUNS) {
+          goOnAsNew(run, x);
+        } else {
+          closeRun(run, FAILED, 0, 0);
+        }
+        break;
+      default:
+        break;
     }
   }
 
-  private void carryOutLast(Run run, int kind, int x) {
-    if (kind == History.DONE) {
-      closeRun(run, DONE, x, 0);
-    } else if (kind == History.FAIL) {
-      closeRun(run, machine.state.cancelTaken ? CANCELLED : FAILED, 0, 0);
-    } else if (kind == History.AGAIN && allRuns.size() < MOST_RUNS) {
-      goOnAsNew(run, x);
-    } else if (kind == History.AGAIN) {
-      closeRun(run, FAILED, 0, 0);
+  private void queueTag(Run run, int tag) {
+    if (tagQueue.size < MOST_TAGS) {
+      tagQueue.add(run.number * 1000 + tag);
     }
+    tagsPut++;
   }
 
   private void makeActivity(Run run, int event, int kind, int input) {
@@ -858,7 +837,7 @@ public final class DurableLoom {
   }
 
   private void beginChild(Run run, int event, int type, int input) {
-    if (allRuns.size() >= MOST_RUNS || types[Math.floorMod(type, types.length)].count == 0) {
+    if (allRuns.size() >= MOST_RUNS || types[Math.floorMod(type, types.length)].versions.isEmpty()) {
       arrive(run, History.BROKEN, event, 0);
     } else {
       startRun(type, run.tenant, input, run.number, event);
@@ -940,7 +919,7 @@ public final class DurableLoom {
       if (kind == History.ACTIVITY) {
         makeActivity(run, i, history.x(i), history.y(i));
       } else {
-        run.addTimer(i, Math.max(history.time(i) + history.x(i), time + 1));
+        run.addTimer(i, Math.max(history.timeOfCommand(i) + history.x(i), time + 1));
       }
     }
   }
@@ -1035,25 +1014,47 @@ public final class DurableLoom {
     }
   }
 
-  /** A row of numbers that grows. */
+  /** A row of numbers that grows by parts: no number is ever moved, and no part is made twice. */
   private static final class Row {
-    private int[] values;
+    private static final int PART_AT = 6, PART = 1 << PART_AT, WITHIN = PART - 1;
+
+    private long[][] parts = new long[1][];
+    /** How many parts, the first ones, another row has as well: they are not written into. */
+    private int shared = 0;
     int size = 0;
 
-    Row(int room) {
-      values = new int[Math.max(1, room)];
+    long wide(int place) {
+      int part = place >> PART_AT;
+      int within = place & WITHIN;
+      if (place < 0 || place >= size || part >= parts.length || parts[part] == null
+          || within >= parts[part].length) {
+        return 0;
+      }
+      return parts[part][within];
     }
 
     int at(int place) {
-      return place >= 0 && place < size && place < values.length ? values[place] : 0;
+      return (int) wide(place);
     }
 
-    void add(int value) {
-      if (size >= values.length) {
-        values = Arrays.copyOf(values, 2 * values.length);
+    void add(long value) {
+      int part = size >> PART_AT;
+      int within = size & WITHIN;
+      if (part >= parts.length) {
+        long[][] more = new long[2 * parts.length][];
+        for (int i = 0; i < parts.length && i < more.length; i++) {
+          more[i] = parts[i];
+        }
+        parts = more;
       }
-      if (size < values.length) {
-        values[size] = value;
+      if (part >= parts.length) {
+        return;
+      }
+      if (parts[part] == null) {
+        parts[part] = new long[PART];
+      }
+      if (within < parts[part].length) {
+        parts[part][within] = value;
         size++;
       }
     }
@@ -1062,91 +1063,104 @@ public final class DurableLoom {
       if (place < 0 || place >= size) {
         return;
       }
-      for (int i = place + 1; i < size && i < values.length; i++) {
-        values[i - 1] = values[i];
+      for (int i = place + 1; i < size; i++) {
+        put(i - 1, wide(i));
       }
       size--;
     }
 
-    /** Takes the last number off; 0 if there is none. */
-    int removeLast() {
-      if (size == 0 || size > values.length) {
-        return 0;
+    private void put(int place, long value) {
+      int part = place >> PART_AT;
+      int within = place & WITHIN;
+      if (place >= 0 && place < size && part < parts.length && parts[part] != null
+          && within < parts[part].length) {
+        parts[part][within] = value;
       }
-      size--;
-      return values[size];
     }
 
-    void clear() {
-      size = 0;
+    /** Leaves the first numbers alone. The row's own parts behind them are used again. */
+    void cut(int many) {
+      size = Math.min(size, Math.max(0, many));
+      int full = size >> PART_AT;
+      for (int i = full; i < shared && i < parts.length; i++) {
+        boolean isBegun = i == full && (size & WITHIN) > 0 && parts[i] != null;
+        parts[i] = isBegun ? Arrays.copyOf(parts[i], PART) : null;
+      }
+      shared = Math.min(shared, full);
     }
 
-    void become(Row other) {
-      if (values.length < other.size) {
-        values = new int[Math.max(1, other.values.length)];
+    /** Becomes the first numbers of another row, which is never changed any more. */
+    void becomeFirst(Row other, int many) {
+      int end = Math.min(other.size, Math.max(0, many));
+      int full = Math.min(end >> PART_AT, other.parts.length);
+      parts = new long[full + 1][];
+      for (int i = 0; i < full; i++) {
+        parts[i] = other.parts[i];
       }
-      int many = Math.min(values.length, Math.min(other.size, other.values.length));
-      System.arraycopy(other.values, 0, values, 0, many);
-      size = many;
+      shared = full;
+      size = full << PART_AT;
+      for (int i = size; i < end; i++) {
+        add(other.wide(i));
+      }
     }
   }
 
-  /** The events of a run: each in one number, and its place among all events that came so far. */
+  /** The events of a run, each in one number. */
   private static final class History {
     static final int START = 0, ANSWER = 1, FAILED = 2, FIRED = 3, SIGNAL = 4, RESULT = 5, BROKEN = 6;
     static final int CANCEL = 7, ACTIVITY = 8, TIMER = 9, CHILD = 10, DROP = 11, PATCH = 12, TAG = 13;
     static final int DONE = 14, FAIL = 15, AGAIN = 16, TASK = 17;
-    private static final int KIND_AT = 50, X_AT = 30, Y_AT = 20;
-    private static final int LONG_MASK = (1 << 20) - 1, Y_MASK = (1 << 10) - 1;
+    private static final int KIND_AT = 58, X_AT = 39, Y_AT = 29, ORDER_AT = 10;
+    private static final int X_MASK = (1 << KIND_AT - X_AT) - 1, Y_MASK = (1 << X_AT - Y_AT) - 1;
+    private static final int LAST_MASK = (1 << Y_AT) - 1;
+    private static final int ORDER_MASK = (1 << Y_AT - ORDER_AT) - 1, CLOCK_MASK = (1 << ORDER_AT) - 1;
 
-    private long[] events;
-    private int[] orders;
+    private final Row events;
     int size = 0;
     int arrivals = 0;
     int tasks = 0;
     /** How many arrivals the last TASK counts. */
     int counted = 0;
 
-    History(int room) {
-      events = new long[Math.max(1, room)];
-      orders = new int[Math.max(1, room)];
+    History(Row events) {
+      this.events = events;
     }
 
     int kind(int event) {
-      return event >= 0 && event < size && event < events.length ? (int) (events[event] >> KIND_AT) : 0;
+      return (int) (events.wide(event) >> KIND_AT);
     }
 
     int x(int event) {
-      return event >= 0 && event < size && event < events.length
-          ? (int) (events[event] >> X_AT) & LONG_MASK : 0;
+      return (int) (events.wide(event) >> X_AT) & X_MASK;
     }
 
     int y(int event) {
-      return event >= 0 && event < size && event < events.length
-          ? (int) (events[event] >> Y_AT) & Y_MASK : 0;
+      return (int) (events.wide(event) >> Y_AT) & Y_MASK;
     }
 
-    int time(int event) {
-      return event >= 0 && event < size && event < events.length ? (int) events[event] & LONG_MASK : 0;
+    /** The time at which a command came. */
+    int timeOfCommand(int event) {
+      return (int) events.wide(event) & LAST_MASK;
     }
 
-    int order(int event) {
-      return event >= 0 && event < size && event < orders.length ? orders[event] : 0;
+    /** The time, by 1000, at which an arrival came. */
+    int clockOfArrival(int event) {
+      return (int) events.wide(event) & CLOCK_MASK;
+    }
+
+    /** The place of an arrival among all arrivals that came so far. */
+    int orderOfArrival(int event) {
+      return (int) (events.wide(event) >> ORDER_AT) & ORDER_MASK;
     }
 
     void put(int kind, int x, int y, int time, int order) {
-      if (size >= events.length || size >= orders.length) {
-        int room = 2 * Math.max(events.length, orders.length);
-        events = Arrays.copyOf(events, room);
-        orders = Arrays.copyOf(orders, room);
+      int last = time;
+      if (kind <= CANCEL) {
+        last = (order & ORDER_MASK) << ORDER_AT | time % 1000;
       }
-      if (size >= events.length || size >= orders.length) {
-        return;
-      }
-      events[size] = ((long) kind << KIND_AT) | ((long) (x & LONG_MASK) << X_AT)
-          | ((long) (y & Y_MASK) << Y_AT) | (time & LONG_MASK);
-      orders[size] = order;
-      size++;
+      events.add((long) kind << KIND_AT | (long) (x & X_MASK) << X_AT | (long) (y & Y_MASK) << Y_AT
+          | last & LAST_MASK);
+      size = events.size;
       if (kind <= CANCEL) {
         arrivals++;
       } else if (kind == TASK) {
@@ -1157,7 +1171,18 @@ public final class DurableLoom {
 
     /** Leaves the first events alone. */
     void cut(int many) {
-      size = Math.min(size, Math.max(0, many));
+      events.cut(many);
+      countAgain();
+    }
+
+    /** Becomes the first events of another history, which is never changed any more. */
+    void becomeFirst(History other, int many) {
+      events.becomeFirst(other.events, many);
+      countAgain();
+    }
+
+    private void countAgain() {
+      size = events.size;
       arrivals = 0;
       tasks = 0;
       counted = 0;
@@ -1172,12 +1197,6 @@ public final class DurableLoom {
       }
     }
 
-    void copyFrom(History other, int many) {
-      for (int i = 0; i < many && i < other.size; i++) {
-        put(other.kind(i), other.x(i), other.y(i), other.time(i), other.order(i));
-      }
-    }
-
     boolean has(int kind) {
       for (int i = 0; i < size; i++) {
         if (kind(i) == kind) {
@@ -1188,14 +1207,14 @@ public final class DurableLoom {
     }
 
     boolean is(int event, int kind, int x, int y) {
-      long wanted = (long) kind << KIND_AT - Y_AT | (long) (x & LONG_MASK) << X_AT - Y_AT | (y & Y_MASK);
-      return event >= 0 && event < size && event < events.length && events[event] >> Y_AT == wanted;
+      long wanted = (long) kind << KIND_AT - Y_AT | (long) (x & X_MASK) << X_AT - Y_AT | (y & Y_MASK);
+      return event >= 0 && event < size && events.wide(event) >> Y_AT == wanted;
     }
 
     /** The next arrival from an event on; the size if there is none. */
     int nextArrival(int from) {
       int at = Math.max(0, from);
-      while (at < size && at < events.length && events[at] >> KIND_AT > CANCEL) {
+      while (at < size && events.wide(at) >> KIND_AT > CANCEL) {
         at++;
       }
       return at;
@@ -1204,8 +1223,7 @@ public final class DurableLoom {
     /** The next command from an event on; the size if there is none. */
     int nextCommand(int from) {
       int at = Math.max(0, from);
-      while (at < size && at < events.length
-          && (events[at] >> KIND_AT <= CANCEL || events[at] >> KIND_AT == TASK)) {
+      while (at < size && (events.wide(at) >> KIND_AT <= CANCEL || events.wide(at) >> KIND_AT == TASK)) {
         at++;
       }
       return at;
@@ -1214,8 +1232,8 @@ public final class DurableLoom {
     /** The first TASK that counts more arrivals than so many; the size if there is none. */
     int taskBeyond(int taken) {
       int at = 0;
-      while (at < size && at < events.length
-          && (events[at] >> KIND_AT != TASK || ((int) (events[at] >> X_AT) & LONG_MASK) <= taken)) {
+      while (at < size && (events.wide(at) >> KIND_AT != TASK
+          || ((int) (events.wide(at) >> X_AT) & X_MASK) <= taken)) {
         at++;
       }
       return at;
@@ -1274,16 +1292,9 @@ public final class DurableLoom {
   private static final class Type {
     static final int LEAVE = 0, CANCEL = 1, STOP = 2;
 
-    final Row draft = new Row(MOST_LINES);
-    private final Row[] versions = new Row[MOST_VERSIONS];
-    int count = 0;
+    final ArrayList<Row> versions = new ArrayList<Row>();
+    Row draft = new Row();
     int policy = LEAVE;
-
-    Type() {
-      for (int i = 0; i < versions.length; i++) {
-        versions[i] = new Row(MOST_LINES);
-      }
-    }
 
     /** A line in one number. */
     static int packed(int command, int a, int b) {
@@ -1291,15 +1302,12 @@ public final class DurableLoom {
     }
 
     Row code(int version) {
-      return version >= 0 && version < versions.length ? versions[version] : draft;
+      return version >= 0 && version < versions.size() ? versions.get(version) : draft;
     }
 
     void draftBecomesVersion() {
-      if (count < versions.length) {
-        versions[count].become(draft);
-        count++;
-        draft.clear();
-      }
+      versions.add(draft);
+      draft = new Row();
     }
   }
 
@@ -1328,7 +1336,8 @@ public final class DurableLoom {
     int waits = GOES;
     int waitsFor = 0;
     boolean doomed = false;
-    final Row handlers = new Row(4);
+    /** The stack of its handlers. */
+    int handlers = 0;
 
     void start(int number, int parent, int line) {
       this.number = number;
@@ -1341,20 +1350,7 @@ public final class DurableLoom {
       this.waits = GOES;
       this.waitsFor = 0;
       this.doomed = false;
-    }
-
-    void become(Branch other) {
-      number = other.number;
-      parent = other.parent;
-      above = other.above;
-      rival = other.rival;
-      line = other.line;
-      shields = other.shields;
-      owed = other.owed;
-      waits = other.waits;
-      waitsFor = other.waitsFor;
-      doomed = other.doomed;
-      handlers.become(other.handlers);
+      this.handlers = 0;
     }
 
     void waitFor(int what, int number) {
@@ -1383,12 +1379,15 @@ public final class DurableLoom {
   /** How a run stands behind some of its arrivals. */
   private static final class State {
     static final int MOST_BRANCHES = 12;
+    private static final int VALUES = 10000;
 
     private final int[] variables = new int[VARIABLES];
     /** The branches that are there come first, by rising numbers; the others are free to be begun. */
     private final Branch[] branches = new Branch[MOST_BRANCHES];
     private final Row[] queues = new Row[NAMES];
-    final Row compensations = new Row(4);
+    /** What all stacks hold: each number with the place of the one below it. */
+    private final Row stacked = new Row();
+    int compensations = 0;
     int there = 0;
     int begun = 0;
     int patches = 0;
@@ -1399,26 +1398,23 @@ public final class DurableLoom {
     int arrivalAt = 0;
     int commandAt = 0;
     int taskAt = 0;
-    /** What the run had when the state was kept; no TASK if none is kept. */
-    int tasks = 0;
-    int version = 0;
-    int cuts = 0;
 
     State() {
       for (int i = 0; i < branches.length; i++) {
         branches[i] = new Branch();
       }
       for (int i = 0; i < queues.length; i++) {
-        queues[i] = new Row(4);
+        queues[i] = new Row();
       }
     }
 
     void clear() {
       Arrays.fill(variables, 0);
       for (int i = 0; i < queues.length; i++) {
-        queues[i].clear();
+        queues[i].cut(0);
       }
-      compensations.clear();
+      stacked.cut(0);
+      compensations = 0;
       there = 0;
       begun = 0;
       patches = 0;
@@ -1428,32 +1424,22 @@ public final class DurableLoom {
       arrivalAt = 0;
       commandAt = 0;
       taskAt = 0;
-      tasks = 0;
-      version = 0;
-      cuts = 0;
     }
 
-    void become(State other) {
-      System.arraycopy(other.variables, 0, variables, 0, Math.min(variables.length, other.variables.length));
-      for (int i = 0; i < other.there && i < branches.length && i < other.branches.length; i++) {
-        branches[i].become(other.branches[i]);
-      }
-      for (int i = 0; i < queues.length && i < other.queues.length; i++) {
-        queues[i].become(other.queues[i]);
-      }
-      compensations.become(other.compensations);
-      there = other.there;
-      begun = other.begun;
-      patches = other.patches;
-      cancelTaken = other.cancelTaken;
-      over = other.over;
-      taken = other.taken;
-      arrivalAt = other.arrivalAt;
-      commandAt = other.commandAt;
-      taskAt = other.taskAt;
-      tasks = other.tasks;
-      version = other.version;
-      cuts = other.cuts;
+    /** Puts a number, 0 to 9999, on a stack, 0 for an empty one; returns the stack then. */
+    int pushed(int stack, int value) {
+      stacked.add((long) stack * VALUES + value);
+      return stacked.size;
+    }
+
+    /** The number that was put on a stack last. */
+    int top(int stack) {
+      return (int) (stacked.wide(stack - 1) % VALUES);
+    }
+
+    /** A stack without its last number. */
+    int popped(int stack) {
+      return (int) (stacked.wide(stack - 1) / VALUES);
     }
 
     int value(int variable) {
@@ -1490,7 +1476,6 @@ public final class DurableLoom {
       int number = begun;
       if (there < branches.length) {
         branches[there].start(number, parent, line);
-        branches[there].handlers.clear();
         there++;
         begun++;
       }
@@ -1589,29 +1574,71 @@ public final class DurableLoom {
     /** No arrival needs as many turns: its lines, and the ends and awakenings of branches. */
     private static final int MOST_TURNS = 1000;
     private static final int MOST_STEPS = 60;
+    /** From the beginning; likewise, without looking at commands; from what a worker has kept. */
+    static final int REPLAY = 0, PLAIN = 1, GO_ON = 2;
 
     final State state = new State();
     /** The new commands. */
-    final History news = new History(64);
+    final History news = new History(new Row());
     private History history = news;
-    private Row code = new Row(1);
-    private boolean looks = true;
+    private Row code = new Row();
+    private int way = REPLAY;
+    /** As long as fewer arrivals are taken, only so many events of the history are seen. */
+    private int seenCounted = 0;
+    private int seenEvents = 0;
+    /** The run whose kept state the state is, and the mark that it had then. */
+    private Run known = null;
+    private int knownMark = 0;
     /** The event that is being taken. */
     private int taking = 0;
     private int steps = 0;
     boolean stuck = false;
     int difference = -1;
 
-    /** Makes ready for a history; the state is the caller's matter. */
-    void load(History history, Row code, boolean looks) {
-      this.history = history;
+    /**
+     * Takes the arrivals of a run by a code until so many are taken; returns whether it is not STUCK by
+     * that. What a worker has kept is found again, if another run was followed in between.
+     */
+    boolean follow(Run run, Row code, int limit, int way) {
+      load(run, code, way);
+      for (int i = state.taken; i < limit && goes(); i++) {
+        taking = history.nextArrival(state.arrivalAt);
+        if (taking >= history.size) {
+          break;
+        }
+        state.arrivalAt = taking + 1;
+        steps = 0;
+        note(history.kind(taking), history.x(taking), history.y(taking));
+        goOn();
+        state.taken++;
+        passTasks();
+      }
+      return !stuck;
+    }
+
+    private void load(Run run, Row code, int way) {
+      history = run.history;
       this.code = code;
-      this.looks = looks;
+      this.way = way;
+      seenCounted = way == GO_ON ? run.seenCounted : 0;
+      seenEvents = run.seenEvents;
+      if (way != GO_ON || known != run || knownMark != run.mark()) {
+        state.clear();
+      }
+      known = null;
       news.cut(0);
       taking = 0;
       steps = 0;
       stuck = false;
       difference = -1;
+    }
+
+    /** From now on the state is the one that the last worker of a run has kept of it. */
+    void knows(Run run) {
+      state.commandAt = run.history.size;
+      state.taskAt = run.history.size;
+      known = run;
+      knownMark = run.mark();
     }
 
     private boolean goes() {
@@ -1623,45 +1650,32 @@ public final class DurableLoom {
       difference = event;
     }
 
-    /** Takes arrivals until so many of the history are taken. */
-    void takeUpTo(int limit) {
-      for (int i = state.taken; i < limit && goes(); i++) {
-        taking = history.nextArrival(state.arrivalAt);
-        if (taking >= history.size) {
-          return;
-        }
-        state.arrivalAt = taking + 1;
-        steps = 0;
-        note(history.kind(taking), history.x(taking), history.y(taking));
-        goOn();
-        state.taken++;
-        passTasks();
-      }
-    }
-
     /** Goes by the TASKs whose arrivals are all taken. */
     private void passTasks() {
-      for (int i = state.taskAt; i < history.size && !stuck; i++) {
-        if (history.kind(i) != History.TASK) {
-          continue;
-        }
-        if (history.x(i) > state.taken) {
-          return;
-        }
-        state.taskAt = i + 1;
-        int command = history.nextCommand(state.commandAt);
-        if (command < i) {
+      int at = state.taskAt;
+      while (at < history.size && !stuck
+          && (history.kind(at) != History.TASK || history.x(at) <= state.taken)) {
+        int command = history.kind(at) == History.TASK ? history.nextCommand(state.commandAt) : at;
+        if (command < at) {
           getStuck(command);
         }
+        at++;
       }
+      state.taskAt = at;
     }
 
-    /** A command event that is left makes the run STUCK. */
-    void lookForLeft() {
+    /** Whether a command event is left that was not met: the run is STUCK by that. */
+    boolean isLeft() {
       int command = history.nextCommand(state.commandAt);
-      if (!stuck && command < history.size) {
+      if (command < history.size) {
         getStuck(command);
       }
+      return stuck;
+    }
+
+    /** How many events of the history are seen when a command is looked for. */
+    private int seen() {
+      return state.taken < seenCounted ? seenEvents : history.size;
     }
 
     private void note(int kind, int x, int y) {
@@ -1729,8 +1743,9 @@ public final class DurableLoom {
 
     private void failBranch(Branch branch) {
       branch.goOnAt(branch.line);
-      if (branch.handlers.size > 0) {
-        branch.goOnAt(branch.handlers.removeLast());
+      if (branch.handlers > 0) {
+        branch.goOnAt(state.top(branch.handlers));
+        branch.handlers = state.popped(branch.handlers);
       } else if (command(History.FAIL, 0, 0) >= 0) {
         state.over = History.FAIL;
       }
@@ -1747,8 +1762,9 @@ public final class DurableLoom {
     /** Meets the next command event, or makes a new one; returns its number, -1 if STUCK by it. */
     private int command(int kind, int x, int y) {
       int next = history.nextCommand(state.commandAt);
-      if (next < history.size) {
-        if (looks && !history.is(next, kind, x, y)) {
+      state.commandAt = next;
+      if (next < seen()) {
+        if (way != PLAIN && !history.is(next, kind, x, y)) {
           getStuck(next);
           return -1;
         }
@@ -1850,10 +1866,10 @@ public final class DurableLoom {
           dropDoomed();
           break;
         case TRY:
-          branch.handlers.add(a);
+          branch.handlers = state.pushed(branch.handlers, a);
           break;
         default:
-          branch.handlers.removeLast();
+          branch.handlers = state.popped(branch.handlers);
           break;
       }
     }
@@ -1914,7 +1930,7 @@ public final class DurableLoom {
     private void doEndingLine(Branch branch, int command, int a, int b) {
       switch (command) {
         case COMP:
-          state.compensations.add(1000 * a + state.value(b));
+          state.compensations = state.pushed(state.compensations, 1000 * a + state.value(b));
           branch.goOnAt(branch.line + 1);
           break;
         case UNDO:
@@ -1935,11 +1951,12 @@ public final class DurableLoom {
     }
 
     private void undo(Branch branch) {
-      if (state.compensations.size == 0) {
+      if (state.compensations == 0) {
         branch.goOnAt(branch.line + 1);
         return;
       }
-      int last = state.compensations.removeLast();
+      int last = state.top(state.compensations);
+      state.compensations = state.popped(state.compensations);
       branch.waitFor(Branch.FOR_UNDOING, command(History.ACTIVITY, last / 1000, last % 1000));
     }
 
@@ -1951,7 +1968,7 @@ public final class DurableLoom {
           next = patch(a) ? next : b;
           break;
         case NOW:
-          state.set(a, history.time(taking) % 1000);
+          state.set(a, history.clockOfArrival(taking));
           break;
         case SHIELD:
           branch.shields++;
@@ -1975,8 +1992,8 @@ public final class DurableLoom {
         return true;
       }
       int next = history.nextCommand(state.commandAt);
-      boolean isNext = next < history.size && history.is(next, History.PATCH, patch, 0);
-      boolean isNew = next >= history.size && state.taken >= history.counted;
+      boolean isNext = next < seen() && history.is(next, History.PATCH, patch, 0);
+      boolean isNew = next >= seen() && state.taken >= history.counted;
       if (isNext || isNew) {
         state.patches |= 1 << patch;
         command(History.PATCH, patch, 0);
@@ -2001,12 +2018,18 @@ public final class DurableLoom {
     int cuts = 0;
     int lastTask = -1;
     int tag = -1;
-    final History history = new History(16);
+    /** The worker that keeps the state behind the last TASK, and the mark that the run had then. */
+    int keeper = -1;
+    int keptMark = 0;
+    /** What was there when that worker replayed the run: a replay can only find what had come by then. */
+    int seenCounted = 0;
+    int seenEvents = 0;
+    final History history = new History(new Row());
     /** The events of the timers that have not fired, by rising numbers, and when they are due. */
-    final Row timers = new Row(4);
-    final Row dues = new Row(4);
+    final Row timers = new Row();
+    final Row dues = new Row();
     /** The signals that a take over has lost. */
-    final Row lost = new Row(4);
+    final Row lost = new Row();
 
     Run(int number, int type, int tenant, int version, int parent, int parentEvent) {
       this.number = number;
@@ -2028,7 +2051,16 @@ public final class DurableLoom {
 
     /** When its first arrival without TASK came, of all events. */
     int firstOrder() {
-      return history.order(history.firstNew());
+      return history.orderOfArrival(history.firstNew());
+    }
+
+    /** Another number when a TASK, a cut or another version has come; there are fewer than 1000 TASKs. */
+    int mark() {
+      return (cuts * 1000 + history.tasks) * MOST_VERSIONS + version;
+    }
+
+    boolean isKeptBy(int worker) {
+      return keeper == worker && keptMark == mark();
     }
 
     void addTimer(int event, int due) {
@@ -2085,9 +2117,7 @@ public final class DurableLoom {
     final Run run;
     final int givenAt;
     final int arrivals;
-    final int tasks;
-    final int version;
-    final int cuts;
+    final int mark;
     boolean over = false;
 
     Task(int worker, Run run, int givenAt) {
@@ -2095,9 +2125,7 @@ public final class DurableLoom {
       this.run = run;
       this.givenAt = givenAt;
       this.arrivals = run.history.arrivals;
-      this.tasks = run.history.tasks;
-      this.version = run.version;
-      this.cuts = run.cuts;
+      this.mark = run.mark();
     }
   }
 
