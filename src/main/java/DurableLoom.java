@@ -1014,7 +1014,7 @@ public final class DurableLoom {
     }
   }
 
-  /** A row of numbers that grows by parts: no number is ever moved, and no part is made twice. */
+  /** A row of numbers that grows by parts: what is there is never moved, and parts can be shared. */
   private static final class Row {
     private static final int PART_AT = 6, PART = 1 << PART_AT, WITHIN = PART - 1;
 
@@ -1105,12 +1105,15 @@ public final class DurableLoom {
     }
   }
 
-  /** The events of a run, each in one number. */
+  /**
+   * The events of a run, each in one number: its kind, x, y, and, of a command, the time, of an arrival its
+   * place among all arrivals that came so far, and the time by 1000.
+   */
   private static final class History {
     static final int START = 0, ANSWER = 1, FAILED = 2, FIRED = 3, SIGNAL = 4, RESULT = 5, BROKEN = 6;
     static final int CANCEL = 7, ACTIVITY = 8, TIMER = 9, CHILD = 10, DROP = 11, PATCH = 12, TAG = 13;
     static final int DONE = 14, FAIL = 15, AGAIN = 16, TASK = 17;
-    private static final int KIND_AT = 58, X_AT = 39, Y_AT = 29, ORDER_AT = 10;
+    private static final int KIND_AT = 59, X_AT = 40, Y_AT = 30, ORDER_AT = 10;
     private static final int X_MASK = (1 << KIND_AT - X_AT) - 1, Y_MASK = (1 << X_AT - Y_AT) - 1;
     private static final int LAST_MASK = (1 << Y_AT) - 1;
     private static final int ORDER_MASK = (1 << Y_AT - ORDER_AT) - 1, CLOCK_MASK = (1 << ORDER_AT) - 1;
@@ -1127,30 +1130,27 @@ public final class DurableLoom {
     }
 
     int kind(int event) {
-      return (int) (events.wide(event) >> KIND_AT);
+      return (int) (events.wide(event) >>> KIND_AT);
     }
 
     int x(int event) {
-      return (int) (events.wide(event) >> X_AT) & X_MASK;
+      return (int) (events.wide(event) >>> X_AT) & X_MASK;
     }
 
     int y(int event) {
-      return (int) (events.wide(event) >> Y_AT) & Y_MASK;
+      return (int) (events.wide(event) >>> Y_AT) & Y_MASK;
     }
 
-    /** The time at which a command came. */
     int timeOfCommand(int event) {
       return (int) events.wide(event) & LAST_MASK;
     }
 
-    /** The time, by 1000, at which an arrival came. */
     int clockOfArrival(int event) {
       return (int) events.wide(event) & CLOCK_MASK;
     }
 
-    /** The place of an arrival among all arrivals that came so far. */
     int orderOfArrival(int event) {
-      return (int) (events.wide(event) >> ORDER_AT) & ORDER_MASK;
+      return (int) (events.wide(event) >>> ORDER_AT) & ORDER_MASK;
     }
 
     void put(int kind, int x, int y, int time, int order) {
@@ -1208,13 +1208,13 @@ public final class DurableLoom {
 
     boolean is(int event, int kind, int x, int y) {
       long wanted = (long) kind << KIND_AT - Y_AT | (long) (x & X_MASK) << X_AT - Y_AT | (y & Y_MASK);
-      return event >= 0 && event < size && events.wide(event) >> Y_AT == wanted;
+      return event >= 0 && event < size && events.wide(event) >>> Y_AT == wanted;
     }
 
     /** The next arrival from an event on; the size if there is none. */
     int nextArrival(int from) {
       int at = Math.max(0, from);
-      while (at < size && events.wide(at) >> KIND_AT > CANCEL) {
+      while (at < size && events.wide(at) >>> KIND_AT > CANCEL) {
         at++;
       }
       return at;
@@ -1223,7 +1223,7 @@ public final class DurableLoom {
     /** The next command from an event on; the size if there is none. */
     int nextCommand(int from) {
       int at = Math.max(0, from);
-      while (at < size && (events.wide(at) >> KIND_AT <= CANCEL || events.wide(at) >> KIND_AT == TASK)) {
+      while (at < size && (events.wide(at) >>> KIND_AT <= CANCEL || events.wide(at) >>> KIND_AT == TASK)) {
         at++;
       }
       return at;
@@ -1232,8 +1232,8 @@ public final class DurableLoom {
     /** The first TASK that counts more arrivals than so many; the size if there is none. */
     int taskBeyond(int taken) {
       int at = 0;
-      while (at < size && (events.wide(at) >> KIND_AT != TASK
-          || ((int) (events.wide(at) >> X_AT) & X_MASK) <= taken)) {
+      while (at < size && (events.wide(at) >>> KIND_AT != TASK
+          || ((int) (events.wide(at) >>> X_AT) & X_MASK) <= taken)) {
         at++;
       }
       return at;
@@ -1586,9 +1586,8 @@ public final class DurableLoom {
     /** As long as fewer arrivals are taken, only so many events of the history are seen. */
     private int seenCounted = 0;
     private int seenEvents = 0;
-    /** The run whose kept state the state is, and the mark that it had then. */
+    /** The run whose kept state the state is; null if it is none. */
     private Run known = null;
-    private int knownMark = 0;
     /** The event that is being taken. */
     private int taking = 0;
     private int steps = 0;
@@ -1622,7 +1621,7 @@ public final class DurableLoom {
       this.way = way;
       seenCounted = way == GO_ON ? run.seenCounted : 0;
       seenEvents = run.seenEvents;
-      if (way != GO_ON || known != run || knownMark != run.mark()) {
+      if (way != GO_ON || known != run) {
         state.clear();
       }
       known = null;
@@ -1638,7 +1637,6 @@ public final class DurableLoom {
       state.commandAt = run.history.size;
       state.taskAt = run.history.size;
       known = run;
-      knownMark = run.mark();
     }
 
     private boolean goes() {
@@ -2054,7 +2052,7 @@ public final class DurableLoom {
       return history.orderOfArrival(history.firstNew());
     }
 
-    /** Another number when a TASK, a cut or another version has come; there are fewer than 1000 TASKs. */
+    /** Becomes another number by a TASK, a cut and another version; there are fewer than 1000 TASKs. */
     int mark() {
       return (cuts * 1000 + history.tasks) * MOST_VERSIONS + version;
     }

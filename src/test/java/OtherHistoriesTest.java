@@ -7,6 +7,7 @@ public final class OtherHistoriesTest {
     setBackWork();
     setBackFamily();
     setBackKeepsOrder();
+    longHistories();
     setBackWrong();
     copy();
     takeOver();
@@ -184,6 +185,71 @@ public final class OtherHistoriesTest {
     Check.due("poll", behind.poll(0), 202);
     behind.complete(2);
     Check.due("it comes now", behind.query(2, 3), 6);
+  }
+
+  /** Whatever is done with a run that was set back, and that a take over cuts: the others stay as they are. */
+  private static void longHistories() {
+    for (int tags = 0; tags < 4; tags++) {
+      DurableLoom loom = new DurableLoom();
+      for (int i = 0; i < tags; i++) {
+        loom.line(0, Check.TAG, 0, 0);
+      }
+      Check.code(loom, 0, Check.TIMER, 1, 0, Check.NOW, 1, 0, Check.TAG, 1, 0, Check.GOTO, tags, 0);
+      loom.begin(0, 0, 7);
+      Check.work(loom, 0);
+      tick(loom, 70);
+      String first = Check.history(loom, 0);
+      Check.due("its events", first.split(", ").length, 283 + tags);
+      int[] tasks = {63, 48, 47, 46, 32, 31, 30, 16, 15, 14};
+      for (int run = 0; run < tasks.length; run++) {
+        String before = Check.history(loom, run);
+        String part = upTo(before, tasks[run]);
+        Check.due("setBack", loom.setBack(run, tasks[run]), run + 1);
+        Check.due("the events up to the TASK", Check.history(loom, run + 1), part);
+        tick(loom, 2);
+        Check.due("the new run goes on", Check.history(loom, run + 1).startsWith(part + ", FIRED "), true);
+        int copied = part.split(", ").length - run % 4;
+        copy(loom, run + 1, copied);
+        String lost = Check.history(loom, run + 1);
+        Check.due("takeOver", loom.takeOver(), lost.split(", ").length - copied);
+        loom.join();
+        Check.due("what was copied", Check.history(loom, run + 1), prefix(before, copied));
+        tick(loom, 7);
+        Check.due("that stays", prefix(Check.history(loom, run + 1), copied), prefix(before, copied));
+        Check.due("the run that was set back", Check.history(loom, run), before);
+        Check.due("the first run", Check.history(loom, 0), first);
+        Check.due("it is safe", loom.unsafe(0, 0), 0);
+      }
+    }
+  }
+
+  private static void copy(DurableLoom loom, int run, int events) {
+    int copied = 0;
+    for (int i = 0; i < 5 && copied < events; i++) {
+      copied = loom.copy(run, Math.min(100, events - copied));
+    }
+    Check.due("copy", copied, events);
+  }
+
+  private static String upTo(String history, int task) {
+    int at = -1;
+    for (int i = 0; i <= task; i++) {
+      at = history.indexOf("TASK", at + 1);
+    }
+    int end = history.indexOf(", ", at);
+    return end < 0 ? history : history.substring(0, end);
+  }
+
+  private static String prefix(String history, int events) {
+    String[] parts = history.split(", ");
+    return String.join(", ", java.util.Arrays.copyOf(parts, Math.min(events, parts.length)));
+  }
+
+  private static void tick(DurableLoom loom, int many) {
+    for (int i = 0; i < many; i++) {
+      loom.pass(1);
+      Check.due("a task", Check.work(loom, 0) > 0, true);
+    }
   }
 
   private static void setBackWrong() {

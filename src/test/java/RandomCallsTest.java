@@ -1,7 +1,7 @@
 /**
  * Many runs of 512 calls with numbers from a fixed row: no call throws what the document does not name,
  * a call that throws changes nothing, workers that forget come to the same as those that keep states,
- * and histories keep to their form.
+ * an engine that is asked much in between answers as one that is not, and histories keep to their form.
  */
 public final class RandomCallsTest {
   private static final int CALLS = 512;
@@ -10,13 +10,13 @@ public final class RandomCallsTest {
   private DurableLoom loom;
   private DurableLoom twin;
   private boolean forgetful;
+  private boolean asked;
 
   public static void main(String[] args) {
     for (int i = 0; i < 150; i++) {
-      new RandomCallsTest().play(i, false);
-    }
-    for (int i = 0; i < 150; i++) {
-      new RandomCallsTest().play(i, true);
+      new RandomCallsTest().play(i, false, false);
+      new RandomCallsTest().play(i, true, false);
+      new RandomCallsTest().play(i, false, true);
     }
     Check.end();
   }
@@ -41,9 +41,10 @@ public final class RandomCallsTest {
     return next(Math.max(1, below));
   }
 
-  private void play(int number, boolean isForgetful) {
+  private void play(int number, boolean isForgetful, boolean isAsked) {
     seed = 77777 + number;
     forgetful = isForgetful;
+    asked = isAsked;
     loom = new DurableLoom();
     twin = new DurableLoom();
     for (int type = 0; type < 3; type++) {
@@ -60,6 +61,9 @@ public final class RandomCallsTest {
       lookAt(run);
     }
     Check.due("the twin of " + number, face(twin), face(loom));
+    for (int worker = 0; worker < 3 && !forgetful; worker++) {
+      Check.due("replays", twin.replays(worker), loom.replays(worker));
+    }
   }
 
   private String face(DurableLoom of) {
@@ -73,9 +77,9 @@ public final class RandomCallsTest {
   private void writeCode(int type) {
     int many = 4 + next(16);
     for (int i = 0; i < many; i++) {
-      // Without PATCH: a worker that forgets can see other patches than one that does not.
+      // A worker that forgets can see other patches than one that does not.
       int command = next(24);
-      if (command == Check.PATCH || (command == Check.GOTO && next(3) > 0)) {
+      if ((command == Check.PATCH && !asked) || (command == Check.GOTO && next(3) > 0)) {
         command = Check.WAIT;
       }
       int least = command == Check.TIMER ? 1 : 0;
@@ -127,6 +131,10 @@ public final class RandomCallsTest {
     }
     for (int worker = 0; worker < 3 && forgetful; worker++) {
       Check.due("tasks that are not over", twin.die(worker), 0);
+    }
+    for (int run = 0; run < twin.runs() && asked; run++) {
+      int of = run;
+      Check.thrown(() -> twin.query(of, 0));
     }
     Check.due(what + " of the twin", answer(twin, call, a, b, c), first);
   }

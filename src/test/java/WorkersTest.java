@@ -12,6 +12,8 @@ public final class WorkersTest {
     cachesAndMoves();
     statesThatAreKept();
     patchesInCaches();
+    cachesKnowMore();
+    cachesInTurn();
     effectsInOrder();
     closing();
     sixtyActivities();
@@ -232,9 +234,14 @@ public final class WorkersTest {
     Check.work(loom, 0);
     Check.due("a worker that died forgets", loom.replays(0), 4);
     Check.due("the other one does not", loom.replays(1), 1);
+    loom.die(1);
+    loom.signal(1, 3, 1);
+    Check.work(loom, 0);
+    Check.due("nor does this one when the other one dies", loom.replays(0), 4);
     loom.copy(1, 100);
     loom.copy(0, 100);
     loom.takeOver();
+    loom.pass(1);
     loom.signal(1, 3, 1);
     Check.work(loom, 0);
     Check.due("nothing was cut", loom.replays(0), 4);
@@ -365,6 +372,87 @@ public final class WorkersTest {
     Check.due("work", Check.work(loom, 0), 0);
     Check.due("the history", Check.history(loom, 0), "START 7 0, ACTIVITY 0 7, TASK 1 0");
     Check.due("without the patch", Check.variables(loom, 0), "7 0 0 0 0 0");
+  }
+
+  /**
+   * A worker takes an arrival without a patch that was commanded later. A replay finds the patch there, but
+   * the worker goes on from what it kept, whatever is asked in between.
+   */
+  private static void cachesKnowMore() {
+    DurableLoom loom = Check.with(Check.WAIT, 0, 0, Check.WAIT, 0, 0, Check.WAIT, 0, 0);
+    loom.begin(0, 0, 7);
+    Check.work(loom, 0);
+    loom.signal(0, 0, 1);
+    Check.work(loom, 0);
+    Check.code(loom, 0, Check.WAIT, 0, 0, Check.PATCH, 1, 3, Check.SET, 1, 5, Check.WAIT, 0, 0, Check.PATCH, 1, 9,
+        Check.TAG, 1, 0, Check.WAIT, 0, 0, Check.TAG, 1, 0, Check.WAIT, 0, 0, Check.TAG, 1, 0, Check.WAIT, 0, 0);
+    Check.due("move", loom.move(0, 1), true);
+    loom.signal(0, 0, 2);
+    Check.due("work without the patch", Check.work(loom, 0), 2);
+    Check.due("replays", loom.replays(0), 2);
+    Check.due("the history", Check.history(loom, 0, 4), "SIGNAL 0 2, PATCH 1 0, TAG 0 0, TASK 3 0");
+    Check.due("a replay finds the patch earlier", loom.unsafe(0, 1), 1);
+    loom.signal(0, 0, 3);
+    loom.pass(1);
+    Check.due("the worker goes on", Check.work(loom, 0), 1);
+    Check.due("the history", Check.history(loom, 0, 8), "SIGNAL 0 3, TAG 0 0, TASK 4 0");
+    Check.dueState(loom, "query", () -> loom.query(0, 0));
+    loom.signal(0, 0, 4);
+    Check.due("another worker does not", Check.work(loom, 1), -2);
+    Check.due("the difference", loom.difference(0), 6);
+    Check.due("move", loom.move(0, 1), false);
+    Check.due("the first one does", Check.work(loom, 0), 1);
+    Check.due("the history", Check.history(loom, 0, 11), "SIGNAL 0 4, TAG 0 0, TASK 5 0");
+    Check.due("without a replay", loom.replays(0), 2);
+    loom.die(0);
+    loom.pass(1);
+    loom.signal(0, 0, 5);
+    Check.due("not if it forgot", Check.work(loom, 0), -2);
+    Check.due("by a replay", loom.replays(0), 3);
+  }
+
+  /** What a worker keeps of many runs with handlers, compensations and branches, completed in turn. */
+  private static void cachesInTurn() {
+    DurableLoom loom = Check.with(Check.PAR, 8, 0, Check.COMP, 1, 0, Check.TRY, 6, 0, Check.WAIT, 0, 1, Check.COMP, 2, 1,
+        Check.GOTO, 2, 0, Check.UNDO, 0, 0, Check.FAIL, 0, 0, Check.TRY, 11, 0, Check.WAIT, 1, 2, Check.FAIL, 0, 0,
+        Check.TAG, 2, 0);
+    loom.setRate(10);
+    for (int run = 0; run < 4; run++) {
+      loom.begin(0, run % 3, 10 * run);
+    }
+    for (int i = 0; i < 4; i++) {
+      Check.due("the beginning", Check.work(loom, 0), 0);
+    }
+    for (int round = 1; round <= 3; round++) {
+      loom.pass(1);
+      for (int run = 3; run >= 0; run--) {
+        loom.signal(run, 0, round);
+        Check.due("a signal", Check.work(loom, 0), 0);
+      }
+    }
+    for (int run = 0; run < 4; run++) {
+      loom.signal(run, 1, run);
+      loom.cancel(run);
+      loom.pass(1);
+      Check.due("the tag, and the last compensation", Check.work(loom, 0), 2);
+      Check.due("the history", Check.history(loom, run, 8), "SIGNAL 1 " + run + ", CANCEL 0 0, TAG " + run
+          + " 0, ACTIVITY 2 3, TASK 6 0");
+    }
+    for (int i = 0; i < 4; i++) {
+      int kind = i == 3 ? 1 : 2;
+      for (int run = 0; run < 4; run++) {
+        int due = i == 3 ? 10 * run : 3 - i;
+        int taken = loom.take(kind);
+        Check.due("a compensation", taken, 1000 * (4 * i + run) + due);
+        loom.answer(taken / 1000, 5);
+        loom.pass(1);
+        Check.due("the next one, or the end", Check.work(loom, 0), 1);
+      }
+    }
+    for (int run = 0; run < 4; run++) {
+      Check.due("it is cancelled", Check.status(loom, run), DurableLoom.CANCELLED);
+    }
+    Check.due("replays", loom.replays(0), 4);
   }
 
   private static void effectsInOrder() {
